@@ -21,7 +21,7 @@ public final class HistoryJudge {
     private static final int SNAPSHOT = 3;
     private static final int SERIAL = 4;
 
-    /** Stands for "no transaction", "no list" and, as a writer, for the ground. */
+    /** Stands for "no transaction", "no list", "no place" and, as a writer, for the ground. */
     private static final int NONE = -1;
 
     /** A list of transactions is kept as one number, two bits a member, so that counting up goes in dictionary order. */

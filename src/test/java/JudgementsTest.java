@@ -207,6 +207,14 @@ public final class JudgementsTest {
         g.read(1, 0, 0, 1);
         commit(g, 0, 1);
         DUE.judged("a ring of sources", g, "co");
+
+        HistoryJudge f = history();
+        write(f, 0, 0, 0);
+        write(f, 1, 1, 1);
+        f.read(0, 1, 1, 2);
+        f.read(1, 0, 0, 2);
+        commit(f, 0, 1);
+        DUE.judged("a ring of sources, by second versions", f, "co");
     }
 
     private static void sourcesAgainstRankings() {

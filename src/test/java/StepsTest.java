@@ -164,20 +164,26 @@ public final class StepsTest {
     private static void readOfEveryVersion() {
         for (int place = 0; place < 4 * 4 * 4; place++) {
             int i = place / 16;
-            int x = place / 4 % 4;
             int j = place % 4;
             if (i != j) {
-                HistoryJudge h = new HistoryJudge(4, 4);
-                h.write(j, x);
-                DUE.is("every read: version 1", h.read(i, x, j, 1), OK);
-                h.commit(i);
-                DUE.is("every read: of an open one", h.clean(), false);
-                DUE.is("every read: of a committed one", h.commitIf(j, 0), OK);
-                DUE.judged("every read: " + place, h, "cosnr");
-                DUE.is("every read: the source first", h.serialAt(0), j);
-                DUE.is("every read: the reader last", h.serialAt(1), i);
+                readOfOneVersion(i, place / 4 % 4, j, 1);
+                readOfOneVersion(i, place / 4 % 4, j, 2);
             }
         }
+    }
+
+    private static void readOfOneVersion(int i, int x, int j, int v) {
+        String what = "read(" + i + ", " + x + ", " + j + ", " + v + ")";
+        HistoryJudge h = new HistoryJudge(4, 4);
+        for (int version = 1; version <= v; version++) {
+            h.write(j, x);
+        }
+        DUE.is(what, h.read(i, x, j, v), OK);
+        h.commit(i);
+        DUE.is(what + " of an open one: clean()", h.clean(), false);
+        DUE.is(what + " of one that commits", h.commitIf(j, 0), OK);
+        DUE.judged(what, h, "cosnr");
+        DUE.listed(what, h, j, i);
     }
 
     private static void install() {
