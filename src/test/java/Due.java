@@ -2,12 +2,29 @@
 final class Due {
     private int asked = 0;
     private int wrong = 0;
+    private String sentence = "";
+    private int askedBefore = 0;
+
+    /** Starts the test of one sentence of the document; a sentence of which nothing is asked is not tested, and so is wrong. */
+    void sentence(String words) {
+        endSentence();
+        sentence = words;
+        askedBefore = asked;
+    }
+
+    private void endSentence() {
+        if (!sentence.isEmpty() && asked == askedBefore) {
+            wrong++;
+            System.out.println("nothing asked of: " + sentence);
+        }
+    }
 
     void is(String what, long got, long want) {
         asked++;
         if (got != want) {
             wrong++;
-            System.out.println(what + " answered " + got + ", due is " + want);
+            String about = sentence.isEmpty() ? "" : "[" + sentence + "] ";
+            System.out.println(about + what + " answered " + got + ", due is " + want);
         }
     }
 
@@ -36,6 +53,7 @@ final class Due {
     }
 
     void end() {
+        endSentence();
         System.out.println(wrong == 0 ? "all " + asked + " answers are as due" : wrong + " of " + asked + " answers are not as due");
         if (wrong != 0 || asked == 0) {
             System.exit(1);
