@@ -1,5 +1,8 @@
 /** What the tests of the project share: counting and telling the answers that are not as due. */
 final class Due {
+    /** A fault that breaks everything would otherwise be told some hundred thousand times. */
+    private static final int MOST_TOLD = 1000;
+
     private int asked = 0;
     private int wrong = 0;
     private String sentence = "";
@@ -23,8 +26,13 @@ final class Due {
         asked++;
         if (got != want) {
             wrong++;
-            String about = sentence.isEmpty() ? "" : "[" + sentence + "] ";
-            System.out.println(about + what + " answered " + got + ", due is " + want);
+            tell(what + " answered " + got + ", due is " + want);
+        }
+    }
+
+    private void tell(String fault) {
+        if (wrong <= MOST_TOLD) {
+            System.out.println(sentence.isEmpty() ? fault : "[" + sentence + "] " + fault);
         }
     }
 
